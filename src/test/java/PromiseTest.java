@@ -740,6 +740,10 @@ public final class PromiseTest {
         herd.distrust(3, NONE);
         herd.issue(2, 11, 5);
         Check.same("26 more than the lower ones", herd.weakest(4), 2);
+        CertHerd single = withRoot(5);
+        Check.same("26 nothing covered", single.weakest(0), NONE);
+        single.issue(0, 3, 1);
+        Check.same("26 one name is enough", single.weakest(0), 0);
         Check.fails("26 day below", Check.ARGUMENT, herd, () -> herd.weakest(-1));
         Check.fails("26 day above", Check.ARGUMENT, herd, () -> herd.weakest(5001));
     }
