@@ -3,7 +3,7 @@ import java.util.function.IntSupplier;
 
 /** Runs of 512 drawn calls, each on a new object and a new model side by side; the draws are always the same. */
 public final class ModelTest {
-    private static final int RUNS = 400;
+    private static final int RUNS = 500;
     private static final int CALLS = 512;
     private static final int[] EDGES = {
         Integer.MIN_VALUE, -2, -1, 0, 1, 7, 8, 15, 16, 19, 20, 50, 51, 59, 60, 100, 101, 255, 256,
@@ -13,9 +13,11 @@ public final class ModelTest {
     private final CertHerd herd = new CertHerd();
     private final Model model = new Model();
     private final int span;
-    private String what = "";
+    private final int run;
+    private int asked = 0;
 
     private ModelTest(int run) {
+        this.run = run;
         random = new Random(run);
         span = new int[] {20, 60, 400, 3000}[run % 4];
     }
@@ -23,15 +25,14 @@ public final class ModelTest {
     public static void main(String[] args) {
         for (int run = 0; run < RUNS; run++) {
             ModelTest test = new ModelTest(run);
-            for (int call = 0; call < CALLS; call++) {
-                test.drawCall(run + "." + call);
+            while (test.asked < CALLS) {
+                test.drawCall();
             }
         }
         Check.end();
     }
 
-    private void drawCall(String place) {
-        what = place;
+    private void drawCall() {
         int kind = random.nextInt(100);
         if (kind < 12) {
             drawIssuerCall(kind);
@@ -90,8 +91,8 @@ public final class ModelTest {
     }
 
     private void drawCertificateQuestion(int kind) {
-        int number = rarelyEdge(random.nextInt(herd.certificates() + 1));
-        int place = rarelyEdge(random.nextInt(herd.waiting() + 1));
+        int number = rarelyEdge(random.nextInt(model.certificates() + 1));
+        int place = rarelyEdge(random.nextInt(model.waiting() + 1));
         if (kind < 48) {
             both("issuerOf " + number, () -> herd.issuerOf(number), () -> model.issuerOf(number));
             both("lastDay " + number, () -> herd.lastDay(number), () -> model.lastDay(number));
@@ -132,11 +133,11 @@ public final class ModelTest {
     }
 
     private int issuer() {
-        return rarelyEdge(random.nextInt(Math.max(1, herd.issuers())));
+        return rarelyEdge(random.nextInt(Math.max(1, model.issuers())));
     }
 
     private int day() {
-        int around = herd.today() + random.nextInt(span / 4 + 1) - span / 16;
+        int around = model.today() + random.nextInt(span / 4 + 1) - span / 16;
         return rarelyEdge(Math.max(0, Math.min(5000, around)));
     }
 
@@ -145,7 +146,10 @@ public final class ModelTest {
     }
 
     private void both(String call, IntSupplier ofHerd, IntSupplier ofModel) {
-        Check.same(what + " " + call, answer(ofHerd), answer(ofModel));
+        if (asked < CALLS) {
+            asked++;
+            Check.same(run + "." + asked + " " + call, answer(ofHerd), answer(ofModel));
+        }
     }
 
     private static Object answer(IntSupplier call) {

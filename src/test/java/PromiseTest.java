@@ -1,4 +1,4 @@
-/** For each promise of the document: ordinary inputs, the edges that it names, and wrong inputs. */
+/** Each promise told by some runs of calls; the edges of each sentence have tests of their own beside this. */
 public final class PromiseTest {
     private static final int NONE = CertHerd.NONE;
     private static final int MIN = Integer.MIN_VALUE;
@@ -83,26 +83,26 @@ public final class PromiseTest {
 
     private static void addIssuerWrong() {
         CertHerd empty = new CertHerd();
-        Check.fails("2 signer of none", Check.INDEX, empty, () -> empty.addIssuer(0, 0, 1, 1));
+        Check.fails("2 signer of none", Check.INDEX, () -> empty.addIssuer(0, 0, 1, 1));
         CertHerd herd = withRoot(5);
-        Check.fails("2 signer itself", Check.INDEX, herd, () -> herd.addIssuer(1, 0, 1, 1));
-        Check.fails("2 signer -2", Check.INDEX, herd, () -> herd.addIssuer(-2, 0, 1, 1));
-        Check.fails("2 signer least", Check.INDEX, herd, () -> herd.addIssuer(MIN, 0, 1, 1));
-        Check.fails("2 signer most", Check.INDEX, herd, () -> herd.addIssuer(MAX, 0, 1, 1));
-        Check.fails("2 signer ahead of from", Check.INDEX, herd, () -> herd.addIssuer(1, -1, 1, 1));
-        Check.fails("2 from below", Check.ARGUMENT, herd, () -> herd.addIssuer(NONE, -1, 1, 1));
-        Check.fails("2 from above", Check.ARGUMENT, herd, () -> herd.addIssuer(NONE, 5001, 5001, 1));
-        Check.fails("2 to below from", Check.ARGUMENT, herd, () -> herd.addIssuer(NONE, 10, 9, 1));
-        Check.fails("2 to above", Check.ARGUMENT, herd, () -> herd.addIssuer(NONE, 10, 5001, 1));
-        Check.fails("2 limit below", Check.ARGUMENT, herd, () -> herd.addIssuer(0, 0, 1, -1));
-        Check.fails("2 limit above", Check.ARGUMENT, herd, () -> herd.addIssuer(0, 0, 1, 51));
+        Check.fails("2 signer itself", Check.INDEX, () -> herd.addIssuer(1, 0, 1, 1));
+        Check.fails("2 signer -2", Check.INDEX, () -> herd.addIssuer(-2, 0, 1, 1));
+        Check.fails("2 signer least", Check.INDEX, () -> herd.addIssuer(MIN, 0, 1, 1));
+        Check.fails("2 signer most", Check.INDEX, () -> herd.addIssuer(MAX, 0, 1, 1));
+        Check.fails("2 signer ahead of from", Check.INDEX, () -> herd.addIssuer(1, -1, 1, 1));
+        Check.fails("2 from below", Check.ARGUMENT, () -> herd.addIssuer(NONE, -1, 1, 1));
+        Check.fails("2 from above", Check.ARGUMENT, () -> herd.addIssuer(NONE, 5001, 5001, 1));
+        Check.fails("2 to below from", Check.ARGUMENT, () -> herd.addIssuer(NONE, 10, 9, 1));
+        Check.fails("2 to above", Check.ARGUMENT, () -> herd.addIssuer(NONE, 10, 5001, 1));
+        Check.fails("2 limit below", Check.ARGUMENT, () -> herd.addIssuer(0, 0, 1, -1));
+        Check.fails("2 limit above", Check.ARGUMENT, () -> herd.addIssuer(0, 0, 1, 51));
         for (int issuer = 1; issuer < 8; issuer++) {
             herd.addIssuer(0, 0, 10, 1);
         }
-        Check.fails("2 a ninth", Check.STATE, herd, () -> herd.addIssuer(NONE, 0, 1, 1));
-        Check.fails("2 argument ahead of state", Check.ARGUMENT, herd, () -> herd.addIssuer(7, 2, 1, 1));
-        Check.fails("2 limit ahead of state", Check.ARGUMENT, herd, () -> herd.addIssuer(7, 0, 1, 51));
-        Check.fails("2 index ahead of all", Check.INDEX, herd, () -> herd.addIssuer(8, 2, 1, 51));
+        Check.fails("2 a ninth", Check.STATE, () -> herd.addIssuer(NONE, 0, 1, 1));
+        Check.fails("2 argument ahead of state", Check.ARGUMENT, () -> herd.addIssuer(7, 2, 1, 1));
+        Check.fails("2 limit ahead of state", Check.ARGUMENT, () -> herd.addIssuer(7, 0, 1, 51));
+        Check.fails("2 index ahead of all", Check.INDEX, () -> herd.addIssuer(8, 2, 1, 51));
     }
 
     /** Promise 3. */
@@ -130,20 +130,20 @@ public final class PromiseTest {
         herd.addIssuer(NONE, 0, 100, 5);
         herd.addIssuer(0, 0, 100, 5);
         herd.addIssuer(2, 0, 100, 5);
-        Check.fails("3 no issuer", Check.INDEX, herd, () -> herd.cross(4, 0));
-        Check.fails("3 issuer -1", Check.INDEX, herd, () -> herd.cross(-1, 0));
-        Check.fails("3 no signer", Check.INDEX, herd, () -> herd.cross(2, 4));
-        Check.fails("3 signer NONE", Check.INDEX, herd, () -> herd.cross(2, NONE));
-        Check.fails("3 signer most", Check.INDEX, herd, () -> herd.cross(2, MAX));
-        Check.fails("3 signer itself", Check.ARGUMENT, herd, () -> herd.cross(2, 2));
-        Check.fails("3 signer above", Check.ARGUMENT, herd, () -> herd.cross(2, 3));
-        Check.fails("3 a root and not below", Check.ARGUMENT, herd, () -> herd.cross(0, 1));
-        Check.fails("3 a root", Check.STATE, herd, () -> herd.cross(1, 0));
-        Check.fails("3 signed by this one", Check.STATE, herd, () -> herd.cross(2, 0));
+        Check.fails("3 no issuer", Check.INDEX, () -> herd.cross(4, 0));
+        Check.fails("3 issuer -1", Check.INDEX, () -> herd.cross(-1, 0));
+        Check.fails("3 no signer", Check.INDEX, () -> herd.cross(2, 4));
+        Check.fails("3 signer NONE", Check.INDEX, () -> herd.cross(2, NONE));
+        Check.fails("3 signer most", Check.INDEX, () -> herd.cross(2, MAX));
+        Check.fails("3 signer itself", Check.ARGUMENT, () -> herd.cross(2, 2));
+        Check.fails("3 signer above", Check.ARGUMENT, () -> herd.cross(2, 3));
+        Check.fails("3 a root and not below", Check.ARGUMENT, () -> herd.cross(0, 1));
+        Check.fails("3 a root", Check.STATE, () -> herd.cross(1, 0));
+        Check.fails("3 signed by this one", Check.STATE, () -> herd.cross(2, 0));
         Check.same("3 a second one", herd.cross(3, 0), 100);
-        Check.fails("3 a third one", Check.STATE, herd, () -> herd.cross(3, 1));
-        Check.fails("3 the second one again", Check.STATE, herd, () -> herd.cross(3, 0));
-        Check.fails("3 two, and not below", Check.ARGUMENT, herd, () -> herd.cross(3, 3));
+        Check.fails("3 a third one", Check.STATE, () -> herd.cross(3, 1));
+        Check.fails("3 the second one again", Check.STATE, () -> herd.cross(3, 0));
+        Check.fails("3 two, and not below", Check.ARGUMENT, () -> herd.cross(3, 3));
     }
 
     /** Promise 4. */
@@ -166,10 +166,10 @@ public final class PromiseTest {
         Check.same("4 none before", herd.distrust(0, 5000), NONE);
         Check.same("4 last day", herd.isGood(0, 4999), true);
         Check.same("4 on the last day", herd.isGood(0, 5000), false);
-        Check.fails("4 no issuer", Check.INDEX, herd, () -> herd.distrust(2, 1));
-        Check.fails("4 issuer -1", Check.INDEX, herd, () -> herd.distrust(-1, -2));
-        Check.fails("4 below", Check.ARGUMENT, herd, () -> herd.distrust(0, -2));
-        Check.fails("4 above", Check.ARGUMENT, herd, () -> herd.distrust(0, 5001));
+        Check.fails("4 no issuer", Check.INDEX, () -> herd.distrust(2, 1));
+        Check.fails("4 issuer -1", Check.INDEX, () -> herd.distrust(-1, -2));
+        Check.fails("4 below", Check.ARGUMENT, () -> herd.distrust(0, -2));
+        Check.fails("4 above", Check.ARGUMENT, () -> herd.distrust(0, 5001));
     }
 
     /** Promise 5. */
@@ -177,8 +177,8 @@ public final class PromiseTest {
         CertHerd herd = withRoot(50);
         herd.addIssuer(NONE, 0, 5000, 50);
         Check.same("5 none yet", herd.pin(5, 2), 0);
-        Check.fails("5 name", Check.STATE, herd, () -> herd.issue(0, 5, 10));
-        Check.fails("5 zone", Check.STATE, herd, () -> herd.issue(0, 17, 10));
+        Check.fails("5 name", Check.STATE, () -> herd.issue(0, 5, 10));
+        Check.fails("5 zone", Check.STATE, () -> herd.issue(0, 17, 10));
         Check.same("5 the pinned one", herd.issue(1, 5, 10), 0);
         Check.same("5 the pinned one, zone", herd.issue(1, 17, 10), 1);
         Check.same("5 another name of the zone", herd.issue(0, 4, 10), 2);
@@ -188,20 +188,20 @@ public final class PromiseTest {
         Check.same("5 both", herd.issue(0, 17, 10), 5);
         herd.pin(4, 1);
         herd.pin(7, 2);
-        Check.fails("5 one of them not", Check.STATE, herd, () -> herd.issue(0, 17, 10));
-        Check.fails("5 nor the other", Check.STATE, herd, () -> herd.issue(1, 17, 10));
+        Check.fails("5 one of them not", Check.STATE, () -> herd.issue(0, 17, 10));
+        Check.fails("5 nor the other", Check.STATE, () -> herd.issue(1, 17, 10));
         Check.same("5 cleared", herd.pin(7, 0), 2);
         Check.same("5 as before", herd.issue(0, 17, 10), 6);
         Check.same("5 what is not there yet", herd.pin(0, 128), 0);
-        Check.fails("5 none of these", Check.STATE, herd, () -> herd.issue(0, 0, 10));
+        Check.fails("5 none of these", Check.STATE, () -> herd.issue(0, 0, 10));
         Check.same("5 all", herd.pin(15, 255), 0);
         Check.same("5 all issue", herd.issue(0, 15, 10), 7);
         Check.same("5 pins don't uncover", herd.pin(4, 128), 1);
         Check.same("5 still covered", herd.isCovered(4, 0), true);
-        Check.fails("5 name above", Check.INDEX, herd, () -> herd.pin(16, 0));
-        Check.fails("5 name below", Check.INDEX, herd, () -> herd.pin(-1, 256));
-        Check.fails("5 pins below", Check.ARGUMENT, herd, () -> herd.pin(0, -1));
-        Check.fails("5 pins above", Check.ARGUMENT, herd, () -> herd.pin(0, 256));
+        Check.fails("5 name above", Check.INDEX, () -> herd.pin(16, 0));
+        Check.fails("5 name below", Check.INDEX, () -> herd.pin(-1, 256));
+        Check.fails("5 pins below", Check.ARGUMENT, () -> herd.pin(0, -1));
+        Check.fails("5 pins above", Check.ARGUMENT, () -> herd.pin(0, 256));
     }
 
     private static int offset(int seed, int length) {
@@ -247,7 +247,7 @@ public final class PromiseTest {
         for (int number = 0; number < 60; number++) {
             Check.same("7 up to 60", full.issue(number % 2, 0, 1), number);
         }
-        Check.fails("7 a 61st", Check.STATE, full, () -> full.issue(0, 0, 1));
+        Check.fails("7 a 61st", Check.STATE, () -> full.issue(0, 0, 1));
         Check.same("7 there was room", full.room(0), 20);
     }
 
@@ -258,43 +258,43 @@ public final class PromiseTest {
         herd.addIssuer(NONE, 3, 9, 50);
         herd.issue(0, 0, 1);
         herd.issue(0, 1, 1);
-        Check.fails("7 limit", Check.STATE, herd, () -> herd.issue(0, 2, 1));
-        Check.fails("7 limit 0", Check.STATE, herd, () -> herd.issue(2, 2, 1));
+        Check.fails("7 limit", Check.STATE, () -> herd.issue(0, 2, 1));
+        Check.fails("7 limit 0", Check.STATE, () -> herd.issue(2, 2, 1));
         Check.same("7 another's limit", herd.issue(1, 2, 1), 2);
-        Check.fails("7 not yet good", Check.STATE, herd, () -> herd.issue(3, 2, 1));
+        Check.fails("7 not yet good", Check.STATE, () -> herd.issue(3, 2, 1));
         herd.pass(3);
         Check.same("7 on its first day", herd.issue(3, 2, 1), 3);
         herd.pass(3);
-        Check.fails("7 on the week's last day", Check.STATE, herd, () -> herd.issue(0, 2, 1));
+        Check.fails("7 on the week's last day", Check.STATE, () -> herd.issue(0, 2, 1));
         herd.pass(1);
         Check.same("7 in the next week", herd.issue(0, 2, 1), 4);
         herd.pass(2);
         Check.same("7 on its last day", herd.issue(3, 2, 1), 5);
         herd.pass(1);
-        Check.fails("7 no longer good", Check.STATE, herd, () -> herd.issue(3, 2, 1));
+        Check.fails("7 no longer good", Check.STATE, () -> herd.issue(3, 2, 1));
         herd.distrust(0, 10);
-        Check.fails("7 distrusted", Check.STATE, herd, () -> herd.issue(0, 2, 1));
+        Check.fails("7 distrusted", Check.STATE, () -> herd.issue(0, 2, 1));
         herd.distrust(0, 11);
         Check.same("7 distrusted later", herd.issue(0, 2, 1), 6);
         herd.addIssuer(0, 0, 5000, 5);
         Check.same("7 by a good chain", herd.issue(4, 2, 1), 7);
         herd.distrust(0, 10);
-        Check.fails("7 without a good chain", Check.STATE, herd, () -> herd.issue(4, 2, 1));
+        Check.fails("7 without a good chain", Check.STATE, () -> herd.issue(4, 2, 1));
     }
 
     private static void issueWrong() {
         CertHerd herd = withRoot(1);
-        Check.fails("7 no issuer", Check.INDEX, herd, () -> herd.issue(1, 0, 1));
-        Check.fails("7 issuer -1", Check.INDEX, herd, () -> herd.issue(-1, 0, 1));
-        Check.fails("7 issuer ahead of all", Check.INDEX, herd, () -> herd.issue(MIN, 20, 0));
-        Check.fails("7 subject below", Check.ARGUMENT, herd, () -> herd.issue(0, -1, 1));
-        Check.fails("7 subject above", Check.ARGUMENT, herd, () -> herd.issue(0, 20, 1));
-        Check.fails("7 length below", Check.ARGUMENT, herd, () -> herd.issue(0, 0, 0));
-        Check.fails("7 length least", Check.ARGUMENT, herd, () -> herd.issue(0, 0, MIN));
-        Check.fails("7 length above", Check.ARGUMENT, herd, () -> herd.issue(0, 0, 401));
+        Check.fails("7 no issuer", Check.INDEX, () -> herd.issue(1, 0, 1));
+        Check.fails("7 issuer -1", Check.INDEX, () -> herd.issue(-1, 0, 1));
+        Check.fails("7 issuer ahead of all", Check.INDEX, () -> herd.issue(MIN, 20, 0));
+        Check.fails("7 subject below", Check.ARGUMENT, () -> herd.issue(0, -1, 1));
+        Check.fails("7 subject above", Check.ARGUMENT, () -> herd.issue(0, 20, 1));
+        Check.fails("7 length below", Check.ARGUMENT, () -> herd.issue(0, 0, 0));
+        Check.fails("7 length least", Check.ARGUMENT, () -> herd.issue(0, 0, MIN));
+        Check.fails("7 length above", Check.ARGUMENT, () -> herd.issue(0, 0, 401));
         Check.same("7 no draw yet", herd.dueOn(herd.issue(0, 0, 400)), 266 + 16838 % 67);
-        Check.fails("7 limit", Check.STATE, herd, () -> herd.issue(0, 0, 1));
-        Check.fails("7 argument ahead of state", Check.ARGUMENT, herd, () -> herd.issue(0, 20, 1));
+        Check.fails("7 limit", Check.STATE, () -> herd.issue(0, 0, 1));
+        Check.fails("7 argument ahead of state", Check.ARGUMENT, () -> herd.issue(0, 20, 1));
         herd.pass(7);
         CertHerd twin = withRoot(50);
         twin.issue(0, 0, 400);
@@ -377,21 +377,21 @@ public final class PromiseTest {
 
     private static void passBounds() {
         CertHerd herd = withRoot(5);
-        Check.fails("8 days 0", Check.ARGUMENT, herd, () -> herd.pass(0));
-        Check.fails("8 days -1", Check.ARGUMENT, herd, () -> herd.pass(-1));
-        Check.fails("8 days 101", Check.ARGUMENT, herd, () -> herd.pass(101));
-        Check.fails("8 days most", Check.ARGUMENT, herd, () -> herd.pass(MAX));
+        Check.fails("8 days 0", Check.ARGUMENT, () -> herd.pass(0));
+        Check.fails("8 days -1", Check.ARGUMENT, () -> herd.pass(-1));
+        Check.fails("8 days 101", Check.ARGUMENT, () -> herd.pass(101));
+        Check.fails("8 days most", Check.ARGUMENT, () -> herd.pass(MAX));
         for (int i = 0; i < 29; i++) {
             herd.pass(100);
         }
         herd.pass(99);
         herd.issue(0, 0, 2);
-        Check.fails("8 to 3001", Check.STATE, herd, () -> herd.pass(2));
-        Check.fails("8 to 3099", Check.STATE, herd, () -> herd.pass(100));
-        Check.fails("8 argument ahead of state", Check.ARGUMENT, herd, () -> herd.pass(101));
+        Check.fails("8 to 3001", Check.STATE, () -> herd.pass(2));
+        Check.fails("8 to 3099", Check.STATE, () -> herd.pass(100));
+        Check.fails("8 argument ahead of state", Check.ARGUMENT, () -> herd.pass(101));
         Check.same("8 to 3000", herd.pass(1), 1);
         Check.same("8 today is 3000", herd.today(), 3000);
-        Check.fails("8 behind 3000", Check.STATE, herd, () -> herd.pass(1));
+        Check.fails("8 behind 3000", Check.STATE, () -> herd.pass(1));
         Check.same("8 issues on 3000", herd.lastDay(herd.issue(0, 0, 400)), 3399);
     }
 
@@ -424,10 +424,10 @@ public final class PromiseTest {
         for (int round = 0; round < 2; round++) {
             for (int number : wrong) {
                 if (round == 0 || number != 0) {
-                    Check.fails("12 " + number, Check.INDEX, herd, () -> herd.issuerOf(number));
-                    Check.fails("13 " + number, Check.INDEX, herd, () -> herd.lastDay(number));
-                    Check.fails("14 " + number, Check.INDEX, herd, () -> herd.dueOn(number));
-                    Check.fails("15 " + number, Check.INDEX, herd, () -> herd.renewal(number));
+                    Check.fails("12 " + number, Check.INDEX, () -> herd.issuerOf(number));
+                    Check.fails("13 " + number, Check.INDEX, () -> herd.lastDay(number));
+                    Check.fails("14 " + number, Check.INDEX, () -> herd.dueOn(number));
+                    Check.fails("15 " + number, Check.INDEX, () -> herd.renewal(number));
                 }
             }
             if (round == 0) {
@@ -491,14 +491,14 @@ public final class PromiseTest {
         Check.same("16 those of one day are due at once", herd.waiting(), 2);
         Check.same("17 the lower number first", herd.waitingAt(0), 2);
         Check.same("17 the higher next", herd.waitingAt(1), 3);
-        Check.fails("17 no third", Check.INDEX, herd, () -> herd.waitingAt(2));
-        Check.fails("17 below 0", Check.INDEX, herd, () -> herd.waitingAt(-1));
-        Check.fails("17 least", Check.INDEX, herd, () -> herd.waitingAt(MIN));
-        Check.fails("17 most", Check.INDEX, herd, () -> herd.waitingAt(MAX));
+        Check.fails("17 no third", Check.INDEX, () -> herd.waitingAt(2));
+        Check.fails("17 below 0", Check.INDEX, () -> herd.waitingAt(-1));
+        Check.fails("17 least", Check.INDEX, () -> herd.waitingAt(MIN));
+        Check.fails("17 most", Check.INDEX, () -> herd.waitingAt(MAX));
         herd.distrust(0, 0);
         herd.pass(1);
         Check.same("16 ended ones don't", herd.waiting(), 0);
-        Check.fails("17 none", Check.INDEX, herd, () -> herd.waitingAt(0));
+        Check.fails("17 none", Check.INDEX, () -> herd.waitingAt(0));
         herd.pass(Math.min(herd.dueOn(0), herd.dueOn(1)) - 2);
         Check.same("16 not due by today", herd.waiting(), 0);
         herd.pass(1);
@@ -539,8 +539,8 @@ public final class PromiseTest {
             full.issue(i % 2, 0, 1);
         }
         Check.same("18 though there are 60", full.room(0), 20);
-        Check.fails("18 no issuer", Check.INDEX, herd, () -> herd.room(2));
-        Check.fails("18 below", Check.INDEX, herd, () -> herd.room(-1));
+        Check.fails("18 no issuer", Check.INDEX, () -> herd.room(2));
+        Check.fails("18 below", Check.INDEX, () -> herd.room(-1));
     }
 
     /** Promise 19. */
@@ -567,10 +567,10 @@ public final class PromiseTest {
         herd.distrust(2, 60);
         Check.same("19 in the middle", herd.isGood(3, 60), false);
         Check.same("19 day 0", herd.isGood(3, 0), false);
-        Check.fails("19 no issuer", Check.INDEX, herd, () -> herd.isGood(4, 0));
-        Check.fails("19 issuer ahead of day", Check.INDEX, herd, () -> herd.isGood(-1, -1));
-        Check.fails("19 day below", Check.ARGUMENT, herd, () -> herd.isGood(0, -1));
-        Check.fails("19 day above", Check.ARGUMENT, herd, () -> herd.isGood(0, 5001));
+        Check.fails("19 no issuer", Check.INDEX, () -> herd.isGood(4, 0));
+        Check.fails("19 issuer ahead of day", Check.INDEX, () -> herd.isGood(-1, -1));
+        Check.fails("19 day below", Check.ARGUMENT, () -> herd.isGood(0, -1));
+        Check.fails("19 day above", Check.ARGUMENT, () -> herd.isGood(0, 5001));
     }
 
     /** Promise 20. */
@@ -591,8 +591,8 @@ public final class PromiseTest {
         herd.distrust(4, 0);
         Check.same("20 whoever is distrusted", herd.chainEnd(4), 400);
         Check.same("20 others as before", herd.chainEnd(3), 90);
-        Check.fails("20 no issuer", Check.INDEX, herd, () -> herd.chainEnd(5));
-        Check.fails("20 below", Check.INDEX, herd, () -> herd.chainEnd(NONE));
+        Check.fails("20 no issuer", Check.INDEX, () -> herd.chainEnd(5));
+        Check.fails("20 below", Check.INDEX, () -> herd.chainEnd(NONE));
     }
 
     /** Promise 21. */
@@ -612,8 +612,8 @@ public final class PromiseTest {
         Check.same("21 as many as ways", herd.chains(7), 21);
         herd.distrust(0, 0);
         Check.same("21 distrusted ones, too", herd.chains(7), 21);
-        Check.fails("21 no issuer", Check.INDEX, herd, () -> herd.chains(8));
-        Check.fails("21 below", Check.INDEX, herd, () -> herd.chains(-1));
+        Check.fails("21 no issuer", Check.INDEX, () -> herd.chains(8));
+        Check.fails("21 below", Check.INDEX, () -> herd.chains(-1));
     }
 
     /** Promise 22. */
@@ -635,10 +635,10 @@ public final class PromiseTest {
         herd.distrust(1, 3);
         Check.same("22 distrusted", herd.isCovered(4, 3), false);
         Check.same("22 ahead of it", herd.isCovered(4, 2), true);
-        Check.fails("22 name above", Check.INDEX, herd, () -> herd.isCovered(16, 0));
-        Check.fails("22 name ahead of day", Check.INDEX, herd, () -> herd.isCovered(-1, 5001));
-        Check.fails("22 day below", Check.ARGUMENT, herd, () -> herd.isCovered(0, -1));
-        Check.fails("22 day above", Check.ARGUMENT, herd, () -> herd.isCovered(0, 5001));
+        Check.fails("22 name above", Check.INDEX, () -> herd.isCovered(16, 0));
+        Check.fails("22 name ahead of day", Check.INDEX, () -> herd.isCovered(-1, 5001));
+        Check.fails("22 day below", Check.ARGUMENT, () -> herd.isCovered(0, -1));
+        Check.fails("22 day above", Check.ARGUMENT, () -> herd.isCovered(0, 5001));
         Check.same("22 the last day there is", herd.isCovered(0, 5000), false);
     }
 
@@ -660,10 +660,10 @@ public final class PromiseTest {
         Check.same("23 for the zone", herd.nextGap(1, 3), 5);
         herd.distrust(0, 5);
         Check.same("23 both", herd.nextGap(0, 3), 5);
-        Check.fails("23 name above", Check.INDEX, herd, () -> herd.nextGap(16, 0));
-        Check.fails("23 name ahead of day", Check.INDEX, herd, () -> herd.nextGap(-1, -1));
-        Check.fails("23 day below", Check.ARGUMENT, herd, () -> herd.nextGap(0, -1));
-        Check.fails("23 day above", Check.ARGUMENT, herd, () -> herd.nextGap(0, 5001));
+        Check.fails("23 name above", Check.INDEX, () -> herd.nextGap(16, 0));
+        Check.fails("23 name ahead of day", Check.INDEX, () -> herd.nextGap(-1, -1));
+        Check.fails("23 day below", Check.ARGUMENT, () -> herd.nextGap(0, -1));
+        Check.fails("23 day above", Check.ARGUMENT, () -> herd.nextGap(0, 5001));
     }
 
     /** Promise 24. */
@@ -684,8 +684,8 @@ public final class PromiseTest {
         Check.same("24 all names", herd.covered(399), 0xFFFF);
         herd.distrust(0, 399);
         Check.same("24 distrusted", herd.covered(399), 0);
-        Check.fails("24 day below", Check.ARGUMENT, herd, () -> herd.covered(-1));
-        Check.fails("24 day above", Check.ARGUMENT, herd, () -> herd.covered(5001));
+        Check.fails("24 day below", Check.ARGUMENT, () -> herd.covered(-1));
+        Check.fails("24 day above", Check.ARGUMENT, () -> herd.covered(5001));
     }
 
     /** Three roots, the issuer 3 signed by the first two; 3 and 2 have issued. */
@@ -721,10 +721,10 @@ public final class PromiseTest {
         herd.distrust(2, 0);
         Check.same("25 distrusted as it is", herd.breaks(2, 0), 0);
         Check.same("25 changes nothing", herd.distrust(3, 8), 8);
-        Check.fails("25 no issuer", Check.INDEX, herd, () -> herd.breaks(4, 0));
-        Check.fails("25 issuer ahead of day", Check.INDEX, herd, () -> herd.breaks(-1, 5001));
-        Check.fails("25 day below", Check.ARGUMENT, herd, () -> herd.breaks(0, -1));
-        Check.fails("25 day above", Check.ARGUMENT, herd, () -> herd.breaks(0, 5001));
+        Check.fails("25 no issuer", Check.INDEX, () -> herd.breaks(4, 0));
+        Check.fails("25 issuer ahead of day", Check.INDEX, () -> herd.breaks(-1, 5001));
+        Check.fails("25 day below", Check.ARGUMENT, () -> herd.breaks(0, -1));
+        Check.fails("25 day above", Check.ARGUMENT, () -> herd.breaks(0, 5001));
     }
 
     /** Promise 26. */
@@ -744,7 +744,7 @@ public final class PromiseTest {
         Check.same("26 nothing covered", single.weakest(0), NONE);
         single.issue(0, 3, 1);
         Check.same("26 one name is enough", single.weakest(0), 0);
-        Check.fails("26 day below", Check.ARGUMENT, herd, () -> herd.weakest(-1));
-        Check.fails("26 day above", Check.ARGUMENT, herd, () -> herd.weakest(5001));
+        Check.fails("26 day below", Check.ARGUMENT, () -> herd.weakest(-1));
+        Check.fails("26 day above", Check.ARGUMENT, () -> herd.weakest(5001));
     }
 }
