@@ -6,33 +6,24 @@ public final class CertificateEdgeTest {
     private static final int[] WRONG_NUMBERS = {-1, 60, 61, MIN, MAX};
 
     public static void main(String[] args) {
-        issue();
-        issueIssuer();
-        issueSubject();
-        issueLength();
-        issueNumber();
-        issueThrows();
-        issueCannot();
-        pass();
-        passDays();
-        passCount();
-        passCountUpTo60();
-        passThrows();
-        today();
-        issuers();
-        certificates();
-        issuerOf();
-        lastDay();
-        dueOn();
-        renewal();
-        renewalOrNone();
-        waiting();
-        waitingOfAll();
-        waitingAt();
-        waitingAtPlace();
-        waitingAtThrows();
-        room();
-        roomByTheLimitAlone();
+        Sentence.test(
+                CertificateEdgeTest::issue, CertificateEdgeTest::issueIssuer, CertificateEdgeTest::issueSubject,
+                CertificateEdgeTest::issueLength, CertificateEdgeTest::issueNumber,
+                CertificateEdgeTest::issueNoSuchIssuer, CertificateEdgeTest::issueOutOfRange,
+                CertificateEdgeTest::issueCannot, CertificateEdgeTest::pass, CertificateEdgeTest::passDays,
+                CertificateEdgeTest::passCount, CertificateEdgeTest::passOutOfRange,
+                CertificateEdgeTest::passTooLate, CertificateEdgeTest::today, CertificateEdgeTest::issuers,
+                CertificateEdgeTest::certificates, CertificateEdgeTest::issuerOf,
+                CertificateEdgeTest::issuerOfNumber, CertificateEdgeTest::issuerOfNoSuch,
+                CertificateEdgeTest::lastDay, CertificateEdgeTest::lastDayNumber,
+                CertificateEdgeTest::lastDayNoSuch, CertificateEdgeTest::dueOn,
+                CertificateEdgeTest::dueOnNumber, CertificateEdgeTest::dueOnNoSuch,
+                CertificateEdgeTest::renewal, CertificateEdgeTest::renewalNumber,
+                CertificateEdgeTest::renewalNoSuch, CertificateEdgeTest::renewalOrNone,
+                CertificateEdgeTest::waiting, CertificateEdgeTest::waitingAt,
+                CertificateEdgeTest::waitingAtPlace, CertificateEdgeTest::waitingAtNoSuch,
+                CertificateEdgeTest::room, CertificateEdgeTest::roomIssuer,
+                CertificateEdgeTest::roomNoSuchIssuer);
         Sentence.end("Promise 7", "Promise 8", "Promise 9", "Promise 10", "Promise 11", "Promise 12",
                 "Promise 13", "Promise 14", "Promise 15", "Promise 16", "Promise 17", "Promise 18");
     }
@@ -107,7 +98,7 @@ public final class CertificateEdgeTest {
         Check.same("a number that ended is not used again", States.onDay(3000).issue(0, 0, 1), 1);
     }
 
-    private static void issueThrows() {
+    private static void issueNoSuchIssuer() {
         Sentence.of(7, "Throws `IndexOutOfBoundsException` if there is no such issuer");
         for (int wrong : new int[] {-1, 8, MIN, MAX}) {
             Refused.inAll("issuer " + wrong, Check.INDEX, h -> h.issue(wrong, 0, 1));
@@ -115,7 +106,9 @@ public final class CertificateEdgeTest {
             Refused.inAll("issuer ahead of length", Check.INDEX, h -> h.issue(wrong, 0, 0));
         }
         Refused.in(States::busy, "the first that is not there", Check.INDEX, h -> h.issue(4, 0, 1));
+    }
 
+    private static void issueOutOfRange() {
         Sentence.of(7, "Throws `IllegalArgumentException` if subject or length is out of range");
         Refused.in(States::busy, "subject", Check.ARGUMENT, h -> h.issue(3, 20, 400));
         Refused.in(States::busy, "length", Check.ARGUMENT, h -> h.issue(3, 19, 401));
@@ -217,6 +210,7 @@ public final class CertificateEdgeTest {
         waits.issue(0, 0, 5);
         Check.same("what waits doesn't count", waits.pass(4), 0);
         Check.same("what has ended never comes", waits.pass(96), 0);
+        passCountUpTo60();
     }
 
     private static void passCountUpTo60() {
@@ -237,13 +231,15 @@ public final class CertificateEdgeTest {
         Check.same("the others wait", almost.waiting(), 56);
     }
 
-    private static void passThrows() {
+    private static void passOutOfRange() {
         Sentence.of(8, "Throws `IllegalArgumentException` if days is out of range");
         for (int wrong : new int[] {0, 101, -1, MAX}) {
             Refused.in(() -> States.onDay(2999), wrong + " ahead of the day 3000", Check.ARGUMENT, h -> h.pass(wrong));
             Refused.in(() -> States.onDay(3000), wrong + " on the day 3000", Check.ARGUMENT, h -> h.pass(wrong));
         }
+    }
 
+    private static void passTooLate() {
         Sentence.of(8, "Throws `IllegalStateException` if today would be later than the day 3000");
         Refused.in(() -> States.onDay(3000), "3000 and 1", Check.STATE, h -> h.pass(1));
         Refused.in(() -> States.onDay(3000), "3000 and 100", Check.STATE, h -> h.pass(100));
@@ -335,11 +331,15 @@ public final class CertificateEdgeTest {
         Check.same("ended and distrusted", herd.issuerOf(0), 1);
         CertHerd eight = States.eightIssuers();
         Check.same("the highest issuer", eight.issuerOf(eight.issue(7, 0, 1)), 7);
+    }
 
+    private static void issuerOfNumber() {
         Sentence.of(12, "`number`: a certificate");
         Check.same("the first", States.sixtyCertificates().issuerOf(0), 0);
         Check.same("the last", States.sixtyCertificates().issuerOf(59), 1);
+    }
 
+    private static void issuerOfNoSuch() {
         Sentence.of(12, "Throws `IndexOutOfBoundsException` if there is no such certificate");
         for (int wrong : WRONG_NUMBERS) {
             Refused.inAll("number " + wrong, Check.INDEX, h -> h.issuerOf(wrong));
@@ -362,7 +362,9 @@ public final class CertificateEdgeTest {
         CertHerd late = States.onDay(3000);
         Check.same("of 400 days from the day 3000", late.lastDay(late.issue(0, 0, 400)), 3399);
         Check.same("of 1 day on the day 3000", late.lastDay(late.issue(0, 0, 1)), 3000);
+    }
 
+    private static void lastDayNumber() {
         Sentence.of(13, "`number`: a certificate");
         CertHerd full = States.root(50);
         for (int number = 0; number < 60; number++) {
@@ -371,7 +373,9 @@ public final class CertificateEdgeTest {
         }
         Check.same("the first", full.lastDay(0), 0);
         Check.same("the last", full.lastDay(59), 59);
+    }
 
+    private static void lastDayNoSuch() {
         Sentence.of(13, "Throws `IndexOutOfBoundsException` if there is no such certificate");
         for (int wrong : WRONG_NUMBERS) {
             Refused.inAll("number " + wrong, Check.INDEX, h -> h.lastDay(wrong));
@@ -386,25 +390,29 @@ public final class CertificateEdgeTest {
             int[] due = {0, 1, 2, 2, 3};
             Check.same("of " + length, herd.dueOn(herd.issue(0, 0, length)), due[length - 1]);
         }
-        herd.setSeed(0);
+        herd.setSeed(Seeds.drawing(0));
         Check.same("of 6, offset 0", herd.dueOn(herd.issue(0, 0, 6)), 4);
-        herd.setSeed(-1);
+        herd.setSeed(Seeds.drawing(1));
         Check.same("of 6, offset 1", herd.dueOn(herd.issue(0, 0, 6)), 5);
-        herd.setSeed(-1);
-        Check.same("of 400", herd.dueOn(herd.issue(0, 0, 400)), 266 + 48697 % 67);
+        herd.setSeed(Seeds.drawing(66));
+        Check.same("of 400, the greatest offset", herd.dueOn(herd.issue(0, 0, 400)), 266 + 66);
         herd.setSeed(5);
         herd.pass(3);
-        Check.same("drawn once and kept", herd.dueOn(7), 266 + 48697 % 67);
+        Check.same("drawn once and kept", herd.dueOn(7), 266 + 66);
         Check.same("renewed or not", herd.dueOn(4), 3);
         Check.same("by renewing, on the day 1", herd.dueOn(8), 2);
         CertHerd late = States.onDay(3000);
-        late.setSeed(0);
+        late.setSeed(Seeds.drawing(0));
         Check.same("from the day 3000", late.dueOn(late.issue(0, 0, 400)), 3266);
+    }
 
+    private static void dueOnNumber() {
         Sentence.of(14, "`number`: a certificate");
         Check.same("the first", States.sixtyCertificates().dueOn(0), 3);
         Check.same("the last", States.sixtyCertificates().dueOn(59), 3);
+    }
 
+    private static void dueOnNoSuch() {
         Sentence.of(14, "Throws `IndexOutOfBoundsException` if there is no such certificate");
         for (int wrong : WRONG_NUMBERS) {
             Refused.inAll("number " + wrong, Check.INDEX, h -> h.dueOn(wrong));
@@ -425,7 +433,9 @@ public final class CertificateEdgeTest {
         herd.distrust(0, 0);
         herd.pass(100);
         Check.same("when all have ended", herd.renewal(0), 3);
+    }
 
+    private static void renewalNumber() {
         Sentence.of(15, "`number`: a certificate");
         CertHerd full = States.root(50);
         full.issue(0, 0, 2);
@@ -433,7 +443,9 @@ public final class CertificateEdgeTest {
         Check.same("the first", full.renewal(0), 1);
         Check.same("the last but one", full.renewal(58), 59);
         Check.same("the last", full.renewal(59), NONE);
+    }
 
+    private static void renewalNoSuch() {
         Sentence.of(15, "Throws `IndexOutOfBoundsException` if there is no such certificate");
         for (int wrong : WRONG_NUMBERS) {
             Refused.inAll("number " + wrong, Check.INDEX, h -> h.renewal(wrong));
@@ -464,7 +476,7 @@ public final class CertificateEdgeTest {
         CertHerd herd = States.root(50);
         herd.addIssuer(NONE, 0, 5000, 50);
         for (int length : lengths) {
-            herd.setSeed(0);
+            herd.setSeed(Seeds.drawing(0));
             herd.issue(0, 0, length);
         }
         herd.distrust(0, 1);
@@ -499,6 +511,7 @@ public final class CertificateEdgeTest {
         Check.same("until a day passes", again.waiting(), 1);
         again.pass(1);
         Check.same("then no longer", again.waiting(), 0);
+        waitingOfAll();
     }
 
     private static void waitingOfAll() {
@@ -548,6 +561,16 @@ public final class CertificateEdgeTest {
         for (int place = 0; place < 60; place++) {
             Check.same("by rising numbers, place " + place, full.waitingAt(place), place);
         }
+        CertHerd dueLater = distrusted(30);
+        dueLater.pass(5);
+        dueLater.setSeed(Seeds.drawing(3));
+        dueLater.issue(1, 0, 20);
+        dueLater.distrust(1, 6);
+        dueLater.pass(16);
+        Check.same("one is due on the day 20", dueLater.dueOn(0), 20);
+        Check.same("one is due on the day 21 and ends first", dueLater.dueOn(1), 5 + 13 + 3);
+        Check.same("the last day counts", dueLater.waitingAt(0), 1);
+        Check.same("the day of being due doesn't", dueLater.waitingAt(1), 0);
         CertHerd later = distrusted(30);
         later.pass(25);
         later.issue(1, 0, 5);
@@ -563,7 +586,7 @@ public final class CertificateEdgeTest {
         return herd;
     }
 
-    private static void waitingAtThrows() {
+    private static void waitingAtNoSuch() {
         Sentence.of(17, "Throws `IndexOutOfBoundsException` if there are not so many, or place is below 0");
         Check.same("the last of two", twoWait().waitingAt(1), 0);
         Refused.in(CertificateEdgeTest::twoWait, "a third of two", Check.INDEX, h -> h.waitingAt(2));
@@ -599,7 +622,10 @@ public final class CertificateEdgeTest {
         }
         CertHerd late = States.onDay(3000);
         Check.same("on the day 3000", late.room(0), 50);
+        roomByTheLimitAlone();
+    }
 
+    private static void roomIssuer() {
         Sentence.of(18, "`issuer`: an issuer");
         CertHerd eight = States.eightIssuers();
         Check.same("the lowest", eight.room(0), 2);
@@ -607,7 +633,9 @@ public final class CertificateEdgeTest {
         eight.issue(7, 0, 1);
         Check.same("what the highest has issued", eight.room(7), 6);
         Check.same("is not of those that have signed it", eight.room(6) + eight.room(0), 8);
+    }
 
+    private static void roomNoSuchIssuer() {
         Sentence.of(18, "Throws `IndexOutOfBoundsException` if there is no such issuer");
         for (int wrong : new int[] {-1, 8, MIN, MAX}) {
             Refused.inAll("issuer " + wrong, Check.INDEX, h -> h.room(wrong));
@@ -616,8 +644,6 @@ public final class CertificateEdgeTest {
     }
 
     private static void roomByTheLimitAlone() {
-        Sentence.of(18, "Returns how many certificates an issuer can still issue in the week of today,"
-                + " by its limit alone.");
         CertHerd never = new CertHerd();
         never.addIssuer(NONE, 5000, 5000, 9);
         Check.same("not good", never.room(0), 9);

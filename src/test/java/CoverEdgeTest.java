@@ -8,35 +8,20 @@ public final class CoverEdgeTest {
     private static final int[] WRONG_DAYS = {-1, 5001, MIN, MAX};
 
     public static void main(String[] args) {
-        isGood();
-        isGoodIssuer();
-        isGoodDay();
-        isGoodThrows();
-        chainEnd();
-        chainEndDay();
-        chains();
-        isCovered();
-        isCoveredName();
-        isCoveredDay();
-        isCoveredThrows();
-        nextGap();
-        nextGapName();
-        nextGapDay();
-        nextGapOrNone();
-        nextGapThrows();
-        covered();
-        coveredDay();
-        coveredSet();
-        coveredThrows();
-        breaks();
-        breaksIssuer();
-        breaksDay();
-        breaksSet();
-        breaksThrows();
-        weakest();
-        weakestDay();
-        weakestOrNone();
-        weakestThrows();
+        Sentence.test(
+                CoverEdgeTest::isGood, CoverEdgeTest::isGoodIssuer, CoverEdgeTest::isGoodDay,
+                CoverEdgeTest::isGoodNoSuchIssuer, CoverEdgeTest::isGoodOutOfRange, CoverEdgeTest::chainEnd,
+                CoverEdgeTest::chainEndIssuer, CoverEdgeTest::chainEndNoSuchIssuer, CoverEdgeTest::chainEndDay,
+                CoverEdgeTest::chains, CoverEdgeTest::chainsIssuer, CoverEdgeTest::chainsNoSuchIssuer,
+                CoverEdgeTest::isCovered, CoverEdgeTest::isCoveredName, CoverEdgeTest::isCoveredDay,
+                CoverEdgeTest::isCoveredNoSuchName, CoverEdgeTest::isCoveredOutOfRange, CoverEdgeTest::nextGap,
+                CoverEdgeTest::nextGapName, CoverEdgeTest::nextGapDay, CoverEdgeTest::nextGapOrNone,
+                CoverEdgeTest::nextGapNoSuchName, CoverEdgeTest::nextGapOutOfRange, CoverEdgeTest::covered,
+                CoverEdgeTest::coveredDay, CoverEdgeTest::coveredSet, CoverEdgeTest::coveredOutOfRange,
+                CoverEdgeTest::breaks, CoverEdgeTest::breaksIssuer, CoverEdgeTest::breaksDay,
+                CoverEdgeTest::breaksSet, CoverEdgeTest::breaksNoSuchIssuer, CoverEdgeTest::breaksOutOfRange,
+                CoverEdgeTest::weakest, CoverEdgeTest::weakestDay, CoverEdgeTest::weakestOrNone,
+                CoverEdgeTest::weakestOutOfRange);
         Sentence.end("Promise 19", "Promise 20", "Promise 21", "Promise 22", "Promise 23", "Promise 24",
                 "Promise 25", "Promise 26");
     }
@@ -101,13 +86,15 @@ public final class CoverEdgeTest {
         Refused.in(States::busy, "5001", Check.ARGUMENT, h -> h.isGood(0, 5001));
     }
 
-    private static void isGoodThrows() {
+    private static void isGoodNoSuchIssuer() {
         Sentence.of(19, "Throws `IndexOutOfBoundsException` if there is no such issuer");
         for (int wrong : WRONG_ISSUERS) {
             Refused.inAll("issuer " + wrong, Check.INDEX, h -> h.isGood(wrong, 0));
             Refused.inAll("issuer ahead of day " + wrong, Check.INDEX, h -> h.isGood(wrong, 5001));
         }
+    }
 
+    private static void isGoodOutOfRange() {
         Sentence.of(19, "Throws `IllegalArgumentException` if day is out of range");
         for (int wrong : WRONG_DAYS) {
             Refused.in(States::busy, "day " + wrong, Check.ARGUMENT, h -> h.isGood(3, wrong));
@@ -134,13 +121,17 @@ public final class CoverEdgeTest {
         herd.cross(2, 1);
         Check.same("both last longer by what was crossed below", herd.chainEnd(4), 300);
         Check.same("in the other order, too", herd.chainEnd(5), 300);
+    }
 
+    private static void chainEndIssuer() {
         Sentence.of(20, "`issuer`: an issuer");
         CertHerd line = lineOf8();
         Check.same("the lowest", line.chainEnd(0), 5000);
         Check.same("the highest", line.chainEnd(7), 5000);
         Check.same("the highest of others", States.eightIssuers().chainEnd(7), 493);
+    }
 
+    private static void chainEndNoSuchIssuer() {
         Sentence.of(20, "Throws `IndexOutOfBoundsException` if there is no such issuer");
         for (int wrong : WRONG_ISSUERS) {
             Refused.inAll("issuer " + wrong, Check.INDEX, h -> h.chainEnd(wrong));
@@ -191,11 +182,15 @@ public final class CoverEdgeTest {
         fromAbove.cross(6, 0);
         fromAbove.cross(2, 0);
         Check.same("crossed in falling order", fromAbove.chains(7), 4);
+    }
 
+    private static void chainsIssuer() {
         Sentence.of(21, "`issuer`: an issuer");
         Check.same("the lowest", States.eightIssuers().chains(0), 1);
         Check.same("the highest", States.eightIssuers().chains(7), 3);
+    }
 
+    private static void chainsNoSuchIssuer() {
         Sentence.of(21, "Throws `IndexOutOfBoundsException` if there is no such issuer");
         for (int wrong : WRONG_ISSUERS) {
             Refused.inAll("issuer " + wrong, Check.INDEX, h -> h.chains(wrong));
@@ -259,13 +254,15 @@ public final class CoverEdgeTest {
         Refused.inAll("5001", Check.ARGUMENT, h -> h.isCovered(0, 5001));
     }
 
-    private static void isCoveredThrows() {
+    private static void isCoveredNoSuchName() {
         Sentence.of(22, "Throws `IndexOutOfBoundsException` if there is no such name");
         for (int wrong : WRONG_NAMES) {
             Refused.inAll("name " + wrong, Check.INDEX, h -> h.isCovered(wrong, 0));
             Refused.inAll("name ahead of day " + wrong, Check.INDEX, h -> h.isCovered(wrong, 5001));
         }
+    }
 
+    private static void isCoveredOutOfRange() {
         Sentence.of(22, "Throws `IllegalArgumentException` if day is out of range");
         for (int wrong : WRONG_DAYS) {
             Refused.inAll("day " + wrong, Check.ARGUMENT, h -> h.isCovered(15, wrong));
@@ -333,13 +330,15 @@ public final class CoverEdgeTest {
         Check.same("the last day there is has a gap", herd.nextGap(15, 5000), 5000);
     }
 
-    private static void nextGapThrows() {
+    private static void nextGapNoSuchName() {
         Sentence.of(23, "Throws `IndexOutOfBoundsException` if there is no such name");
         for (int wrong : WRONG_NAMES) {
             Refused.inAll("name " + wrong, Check.INDEX, h -> h.nextGap(wrong, 0));
             Refused.inAll("name ahead of day " + wrong, Check.INDEX, h -> h.nextGap(wrong, 5001));
         }
+    }
 
+    private static void nextGapOutOfRange() {
         Sentence.of(23, "Throws `IllegalArgumentException` if day is out of range");
         for (int wrong : WRONG_DAYS) {
             Refused.inAll("day " + wrong, Check.ARGUMENT, h -> h.nextGap(15, wrong));
@@ -387,7 +386,7 @@ public final class CoverEdgeTest {
         Check.same("none", all.covered(1), 0);
     }
 
-    private static void coveredThrows() {
+    private static void coveredOutOfRange() {
         Sentence.of(24, "Throws `IllegalArgumentException` if day is out of range");
         for (int wrong : WRONG_DAYS) {
             Refused.inAll("day " + wrong, Check.ARGUMENT, h -> h.covered(wrong));
@@ -472,13 +471,15 @@ public final class CoverEdgeTest {
         Check.same("none of them on the next day", herd.breaks(0, 1), 0);
     }
 
-    private static void breaksThrows() {
+    private static void breaksNoSuchIssuer() {
         Sentence.of(25, "Throws `IndexOutOfBoundsException` if there is no such issuer");
         for (int wrong : WRONG_ISSUERS) {
             Refused.inAll("issuer " + wrong, Check.INDEX, h -> h.breaks(wrong, 0));
             Refused.inAll("issuer ahead of day " + wrong, Check.INDEX, h -> h.breaks(wrong, 5001));
         }
+    }
 
+    private static void breaksOutOfRange() {
         Sentence.of(25, "Throws `IllegalArgumentException` if day is out of range");
         for (int wrong : WRONG_DAYS) {
             Refused.in(States::busy, "day " + wrong, Check.ARGUMENT, h -> h.breaks(3, wrong));
@@ -544,7 +545,7 @@ public final class CoverEdgeTest {
         Check.same("all have ended", herd.weakest(5), NONE);
     }
 
-    private static void weakestThrows() {
+    private static void weakestOutOfRange() {
         Sentence.of(26, "Throws `IllegalArgumentException` if day is out of range");
         for (int wrong : WRONG_DAYS) {
             Refused.inAll("day " + wrong, Check.ARGUMENT, h -> h.weakest(wrong));

@@ -5,31 +5,19 @@ public final class IssuerEdgeTest {
     private static final int MAX = Integer.MAX_VALUE;
 
     public static void main(String[] args) {
-        newObject();
-        addIssuer();
-        addIssuerSigner();
-        addIssuerFrom();
-        addIssuerTo();
-        addIssuerLimit();
-        addIssuerNumber();
-        addIssuerThrows();
-        cross();
-        crossIssuer();
-        crossSigner();
-        crossEnd();
-        crossThrows();
-        distrust();
-        distrustIssuer();
-        distrustDay();
-        distrustBefore();
-        distrustThrows();
-        pin();
-        pinName();
-        pinPins();
-        pinBefore();
-        pinThrows();
-        setSeed();
-        setSeedAny();
+        Sentence.test(
+                IssuerEdgeTest::newObject, IssuerEdgeTest::addIssuer, IssuerEdgeTest::addIssuerSigner,
+                IssuerEdgeTest::addIssuerFrom, IssuerEdgeTest::addIssuerTo, IssuerEdgeTest::addIssuerLimit,
+                IssuerEdgeTest::addIssuerNumber, IssuerEdgeTest::addIssuerNoSuchSigner,
+                IssuerEdgeTest::addIssuerOutOfRange, IssuerEdgeTest::addIssuerFull, IssuerEdgeTest::cross,
+                IssuerEdgeTest::crossIssuer, IssuerEdgeTest::crossSigner, IssuerEdgeTest::crossEnd,
+                IssuerEdgeTest::crossNoSuchIssuer, IssuerEdgeTest::crossNotBelow,
+                IssuerEdgeTest::crossNotPossible, IssuerEdgeTest::distrust, IssuerEdgeTest::distrustIssuer,
+                IssuerEdgeTest::distrustDay, IssuerEdgeTest::distrustBefore,
+                IssuerEdgeTest::distrustNoSuchIssuer, IssuerEdgeTest::distrustOutOfRange, IssuerEdgeTest::pin,
+                IssuerEdgeTest::pinName, IssuerEdgeTest::pinPins, IssuerEdgeTest::pinBefore,
+                IssuerEdgeTest::pinNoSuchName, IssuerEdgeTest::pinOutOfRange, IssuerEdgeTest::setSeed,
+                IssuerEdgeTest::setSeedAny);
         Sentence.end("Promise 1", "Promise 2", "Promise 3", "Promise 4", "Promise 5", "Promise 6");
     }
 
@@ -137,7 +125,7 @@ public final class IssuerEdgeTest {
         Check.same("the last", herd.addIssuer(6, 0, 1, 1), 7);
     }
 
-    private static void addIssuerThrows() {
+    private static void addIssuerNoSuchSigner() {
         Sentence.of(2, "Throws `IndexOutOfBoundsException` if there is no such issuer signer, and it is not NONE");
         for (int signer : new int[] {-2, 8, MIN, MAX}) {
             Refused.inAll("signer " + signer, Check.INDEX, h -> h.addIssuer(signer, 0, 1, 1));
@@ -148,7 +136,9 @@ public final class IssuerEdgeTest {
         Refused.inAll("signer itself", Check.INDEX, h -> h.addIssuer(h.issuers(), 0, 1, 1));
         Check.same("NONE is none of these", new CertHerd().addIssuer(NONE, 0, 1, 1), 0);
         Check.same("the highest there is", States.busy().addIssuer(3, 0, 1, 1), 4);
+    }
 
+    private static void addIssuerOutOfRange() {
         Sentence.of(2, "Throws `IllegalArgumentException` if from, to or limit is out of range");
         Refused.in(States::busy, "from", Check.ARGUMENT, h -> h.addIssuer(3, -1, 5000, 50));
         Refused.in(States::busy, "to", Check.ARGUMENT, h -> h.addIssuer(3, 0, 5001, 50));
@@ -157,7 +147,9 @@ public final class IssuerEdgeTest {
         Refused.in(States::eightIssuers, "to ahead of 8", Check.ARGUMENT, h -> h.addIssuer(7, 1, 0, 0));
         Refused.in(States::eightIssuers, "limit ahead of 8", Check.ARGUMENT, h -> h.addIssuer(7, 0, 0, -1));
         Check.same("all in range", States.busy().addIssuer(3, 0, 5000, 50), 4);
+    }
 
+    private static void addIssuerFull() {
         Sentence.of(2, "Throws `IllegalStateException` if there are 8");
         Refused.in(States::eightIssuers, "a root", Check.STATE, h -> h.addIssuer(NONE, 0, 5000, 50));
         Refused.in(States::eightIssuers, "one that is signed", Check.STATE, h -> h.addIssuer(7, 5000, 5000, 0));
@@ -247,7 +239,7 @@ public final class IssuerEdgeTest {
         Check.same("the first day there is", edges.cross(3, 2), 0);
     }
 
-    private static void crossThrows() {
+    private static void crossNoSuchIssuer() {
         Sentence.of(3, "Throws `IndexOutOfBoundsException` if there is no such issuer or signer");
         for (int wrong : new int[] {-1, 8, MIN, MAX}) {
             Refused.inAll("issuer " + wrong, Check.INDEX, h -> h.cross(wrong, 0));
@@ -257,14 +249,18 @@ public final class IssuerEdgeTest {
         Refused.in(States::busy, "signer NONE of one that is signed", Check.INDEX, h -> h.cross(2, NONE));
         Refused.in(States::busy, "the first issuer that is not there", Check.INDEX, h -> h.cross(4, 3));
         Refused.in(States::busy, "the first signer that is not there", Check.INDEX, h -> h.cross(3, 4));
+    }
 
+    private static void crossNotBelow() {
         Sentence.of(3, "Throws `IllegalArgumentException` if signer is not below issuer");
         Refused.in(States::busy, "itself", Check.ARGUMENT, h -> h.cross(2, 2));
         Refused.in(States::busy, "above", Check.ARGUMENT, h -> h.cross(2, 3));
         Refused.in(States::busy, "itself, a root", Check.ARGUMENT, h -> h.cross(0, 0));
         Refused.in(States::busy, "above a root", Check.ARGUMENT, h -> h.cross(0, 3));
         Refused.in(States::busy, "itself, signed by two", Check.ARGUMENT, h -> h.cross(3, 3));
+    }
 
+    private static void crossNotPossible() {
         Sentence.of(3, "Throws `IllegalStateException` if the issuer is a root, or two have signed it,"
                 + " or this one has");
         Refused.in(States::busy, "a root", Check.STATE, h -> h.cross(1, 0));
@@ -334,7 +330,7 @@ public final class IssuerEdgeTest {
         Check.same("none again", herd.distrust(0, 1), NONE);
     }
 
-    private static void distrustThrows() {
+    private static void distrustNoSuchIssuer() {
         Sentence.of(4, "Throws `IndexOutOfBoundsException` if there is no such issuer");
         for (int wrong : new int[] {-1, 8, MIN, MAX}) {
             Refused.inAll("issuer " + wrong, Check.INDEX, h -> h.distrust(wrong, 1));
@@ -342,7 +338,9 @@ public final class IssuerEdgeTest {
         }
         Refused.in(States::busy, "the first that is not there", Check.INDEX, h -> h.distrust(4, NONE));
         Check.same("the last that is there", States.busy().distrust(3, 1), NONE);
+    }
 
+    private static void distrustOutOfRange() {
         Sentence.of(4, "Throws `IllegalArgumentException` if day is out of range");
         for (int wrong : new int[] {-2, 5001, MIN, MAX}) {
             Refused.in(States::busy, "day " + wrong, Check.ARGUMENT, h -> h.distrust(0, wrong));
@@ -410,13 +408,15 @@ public final class IssuerEdgeTest {
         Check.same("128", herd.pin(15, 128), 128);
     }
 
-    private static void pinThrows() {
+    private static void pinNoSuchName() {
         Sentence.of(5, "Throws `IndexOutOfBoundsException` if there is no such name");
         for (int wrong : new int[] {-1, 16, MIN, MAX}) {
             Refused.inAll("name " + wrong, Check.INDEX, h -> h.pin(wrong, 1));
             Refused.inAll("name ahead of pins " + wrong, Check.INDEX, h -> h.pin(wrong, 256));
         }
+    }
 
+    private static void pinOutOfRange() {
         Sentence.of(5, "Throws `IllegalArgumentException` if pins is out of range");
         for (int wrong : new int[] {-1, 256, MIN, MAX}) {
             Refused.inAll("pins " + wrong, Check.ARGUMENT, h -> h.pin(5, wrong));

@@ -20,6 +20,17 @@ final class Sentence {
     private Sentence() {
     }
 
+    /** Runs each test; one that ends by an exception is told as wrong, and the others are run all the same. */
+    static void test(Runnable... tests) {
+        for (Runnable test : tests) {
+            try {
+                test.run();
+            } catch (RuntimeException e) {
+                Check.same("the test ends by", e, "itself");
+            }
+        }
+    }
+
     /** The checks from now on are for this sentence of a promise. */
     static void of(int promise, String words) {
         begin("Promise " + promise, "Promise " + promise, words);

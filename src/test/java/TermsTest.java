@@ -1,5 +1,3 @@
-import java.math.BigInteger;
-
 /** What the document says ahead of the promises: for each of its sentences a test at the edges that it names. */
 public final class TermsTest {
     private static final int NONE = CertHerd.NONE;
@@ -7,41 +5,14 @@ public final class TermsTest {
     private static final int MAX = Integer.MAX_VALUE;
 
     public static void main(String[] args) {
-        calls();
-        days();
-        weeks();
-        names();
-        subjects();
-        issuerNumbers();
-        issuerParts();
-        signers();
-        chain();
-        chainLasts();
-        chainHolds();
-        good();
-        certificateNumbers();
-        lastDayOfCertificate();
-        valid();
-        coveredName();
-        offsets();
-        offsetWrapsAround();
-        offsetModulo();
-        due();
-        renewedOnce();
-        renewedAlike();
-        renewedFromThatDayOn();
-        pins();
-        mayIssue();
-        canIssue();
-        dayGrowsFirst();
-        queueOrder();
-        queueEnds();
-        others();
-        notLookedAt();
-        exceptionKinds();
-        exceptionOrder();
-        changesNothing();
-        none();
+        Sentence.test(
+                TermsTest::calls, TermsTest::days, TermsTest::weeks, TermsTest::names, TermsTest::subjects,
+                TermsTest::issuerNumbers, TermsTest::issuerParts, TermsTest::signers, TermsTest::chain,
+                TermsTest::chainLasts, TermsTest::chainHolds, TermsTest::good, TermsTest::certificateNumbers,
+                TermsTest::valid, TermsTest::coveredName, TermsTest::offsets, TermsTest::due,
+                TermsTest::renewedOnce, TermsTest::pins, TermsTest::mayIssue, TermsTest::canIssue,
+                TermsTest::dayGrowsFirst, TermsTest::notLookedAt, TermsTest::exceptionKinds,
+                TermsTest::exceptionOrder, TermsTest::changesNothing, TermsTest::none);
         Sentence.end("What it is", "Terms");
     }
 
@@ -303,6 +274,7 @@ public final class TermsTest {
         CertHerd renewing = States.certificates(59);
         renewing.pass(4);
         Check.same("renewing ends at 60, too", renewing.certificates(), 60);
+        lastDayOfCertificate();
     }
 
     private static void lastDayOfCertificate() {
@@ -338,6 +310,10 @@ public final class TermsTest {
         ending.issue(0, 3, 400);
         Check.same("on the issuer's last day", ending.isCovered(3, 4), true);
         Check.same("behind the issuer's last day", ending.isCovered(3, 5), false);
+        CertHerd renewed = States.root(50);
+        renewed.issue(0, 3, 5);
+        renewed.pass(3);
+        Check.same("renewed, on the days ahead of that", renewed.covered(0) + renewed.covered(2), 16);
     }
 
     private static void coveredName() {
@@ -351,23 +327,6 @@ public final class TermsTest {
         Check.same("by name alone", herd.covered(3), 0x0080);
         Check.same("by neither", herd.covered(4), 0);
         Check.same("next to the zone", herd.isCovered(3, 0) || herd.isCovered(8, 0), false);
-    }
-
-    /** The seed that comes after another one, by integers that have no bounds. */
-    private static int nextSeed(int seed) {
-        BigInteger product = BigInteger.valueOf(seed).multiply(BigInteger.valueOf(1103515245));
-        return product.add(BigInteger.valueOf(12345)).intValue();
-    }
-
-    /** The seed after which another one comes. */
-    private static int seedAhead(int next) {
-        BigInteger all = BigInteger.ONE.shiftLeft(32);
-        BigInteger back = BigInteger.valueOf(1103515245).modInverse(all);
-        return BigInteger.valueOf(next).subtract(BigInteger.valueOf(12345)).multiply(back).intValue();
-    }
-
-    private static int shifted(int seed) {
-        return BigInteger.valueOf(seed).mod(BigInteger.ONE.shiftLeft(32)).shiftRight(16).intValue();
     }
 
     /** The offset of a certificate of a length that is drawn next. */
@@ -388,34 +347,45 @@ public final class TermsTest {
         CertHerd herd = States.root(50);
         int seed = 1;
         for (int draw = 0; draw < 50; draw++) {
-            seed = nextSeed(seed);
-            Check.same("draw " + draw, offset(herd, 400), shifted(seed) % 67);
+            seed = Seeds.next(seed);
+            Check.same("draw " + draw, offset(herd, 400), Seeds.upper(seed) % 67);
         }
         Check.same("the first draw told as a number", offset(States.root(1), 400), 21);
+        CertHerd shorts = States.root(50);
+        for (int length = 1; length <= 5; length++) {
+            shorts.setSeed(Seeds.drawing(0));
+            shorts.issue(0, 0, length);
+            Check.same("drawn for " + length + ", too", offset(shorts, 400), Seeds.upper(Seeds.next(0)) % 67);
+            shorts.setSeed(1);
+            shorts.issue(0, 0, length);
+            Check.same("drawn once for " + length, offset(shorts, 400), Seeds.upper(Seeds.next(Seeds.next(1))) % 67);
+        }
+        offsetWrapsAround();
+        offsetModulo();
     }
 
     private static void offsetWrapsAround() {
         int[] seeds = {0, 1, 2, 3, -1, -2, 65535, 65536, MAX, MAX - 1, MIN, MIN + 1, 0x55555555, 1103515245};
         for (int seed : seeds) {
-            Check.same("drawn of " + seed, offsetOf(seed, 400), shifted(nextSeed(seed)) % 67);
+            Check.same("drawn of " + seed, offsetOf(seed, 400), Seeds.upper(Seeds.next(seed)) % 67);
         }
-        Check.same("a seed of all bits is shifted without sign", offsetOf(seedAhead(-1), 400), 65535 % 67);
-        Check.same("the least seed is shifted without sign", offsetOf(seedAhead(MIN), 400), 32768 % 67);
-        Check.same("the greatest seed", offsetOf(seedAhead(MAX), 400), 32767 % 67);
-        Check.same("the seed 0", offsetOf(seedAhead(0), 400), 0);
-        Check.same("the last 16 bits fall away", offsetOf(seedAhead(65535), 400), 0);
-        Check.same("the bit above them stays", offsetOf(seedAhead(65536), 400), 1);
+        Check.same("a seed of all bits is shifted without sign", offsetOf(Seeds.ahead(-1), 400), 65535 % 67);
+        Check.same("the least seed is shifted without sign", offsetOf(Seeds.ahead(MIN), 400), 32768 % 67);
+        Check.same("the greatest seed", offsetOf(Seeds.ahead(MAX), 400), 32767 % 67);
+        Check.same("the seed 0", offsetOf(Seeds.drawing(0), 400), 0);
+        Check.same("the last 16 bits fall away", offsetOf(Seeds.ahead(65535), 400), 0);
+        Check.same("the bit above them stays", offsetOf(Seeds.ahead(65536), 400), 1);
     }
 
     private static void offsetModulo() {
         for (int length = 1; length <= 5; length++) {
-            Check.same("no offset for " + length, offsetOf(seedAhead(-1), length), 0);
+            Check.same("no offset for " + length, offsetOf(Seeds.ahead(-1), length), 0);
         }
         for (int length = 6; length <= 400; length++) {
             int modulus = length / 6 + 1;
-            Check.same("as drawn, for " + length, offsetOf(seedAhead(-1), length), 65535 % modulus);
-            Check.same("greatest for " + length, offsetOf(seedAhead((modulus - 1) << 16), length), modulus - 1);
-            Check.same("0 again for " + length, offsetOf(seedAhead(modulus << 16), length), 0);
+            Check.same("as drawn, for " + length, offsetOf(Seeds.ahead(-1), length), 65535 % modulus);
+            Check.same("greatest for " + length, offsetOf(Seeds.drawing(modulus - 1), length), modulus - 1);
+            Check.same("0 again for " + length, offsetOf(Seeds.drawing(modulus), length), 0);
         }
     }
 
@@ -426,12 +396,12 @@ public final class TermsTest {
             {1, 0}, {2, 1}, {3, 2}, {4, 2}, {5, 3}, {6, 4}, {7, 4}, {8, 5}, {9, 6}, {398, 265}, {399, 266}, {400, 266}};
         for (int[] row : twoThirds) {
             CertHerd herd = States.root(50);
-            herd.setSeed(seedAhead(0));
+            herd.setSeed(Seeds.drawing(0));
             Check.same("two thirds of " + row[0], herd.dueOn(herd.issue(0, 0, row[0])), row[1]);
         }
         CertHerd herd = States.root(50);
         herd.pass(50);
-        herd.setSeed(seedAhead(66 << 16));
+        herd.setSeed(Seeds.drawing(66));
         Check.same("first day, two thirds, and offset", herd.dueOn(herd.issue(0, 0, 400)), 50 + 266 + 66);
         herd.distrust(0, 50);
         States.passTo(herd, 381);
@@ -455,6 +425,8 @@ public final class TermsTest {
         Check.same("the renewed one in its turn", herd.pass(1), 1);
         Check.same("renewed by, as before", herd.renewal(0), 1);
         Check.same("the renewed one by", herd.renewal(1), 2);
+        renewedAlike();
+        renewedFromThatDayOn();
     }
 
     private static void renewedAlike() {
@@ -473,9 +445,9 @@ public final class TermsTest {
 
     private static void renewedFromThatDayOn() {
         CertHerd herd = States.root(50);
-        herd.setSeed(seedAhead(0));
+        herd.setSeed(Seeds.drawing(0));
         herd.issue(0, 0, 400);
-        herd.setSeed(seedAhead(66 << 16));
+        herd.setSeed(Seeds.drawing(66));
         herd.pass(100);
         herd.pass(100);
         Check.same("on the day 266", herd.pass(66), 1);
@@ -483,7 +455,7 @@ public final class TermsTest {
         Check.same("an offset drawn then", herd.dueOn(1), 266 + 266 + 66);
         Check.same("the first one keeps its offset", herd.dueOn(0), 266);
         herd.distrust(0, 0);
-        herd.setSeed(seedAhead(1 << 16));
+        herd.setSeed(Seeds.drawing(1));
         herd.pass(100);
         herd.distrust(0, NONE);
         Check.same("nothing is drawn but for a certificate", offset(herd, 400), 1);
@@ -601,6 +573,10 @@ public final class TermsTest {
         CertHerd lastOne = States.root(50);
         lastOne.issue(0, 0, 2);
         Check.same("due on its last day", lastOne.pass(1), 1);
+        queueOrder();
+        queueIsByLastDays();
+        queueEnds();
+        others();
     }
 
     /** Lengths below 6 have no offset: 5 is due on the 4th day, 4 and 3 on the 3rd one, 2 on the 2nd one. */
@@ -627,11 +603,35 @@ public final class TermsTest {
         drawn.distrust(0, 0);
         drawn.pass(26);
         drawn.distrust(0, NONE);
-        drawn.setSeed(seedAhead(3 << 16));
-        int second = shifted(nextSeed(3 << 16)) % 6;
+        drawn.setSeed(Seeds.drawing(3));
+        int second = Seeds.upper(Seeds.next(3 << 16)) % 6;
         Check.same("two wait", drawn.pass(1), 2);
         Check.same("drawn first for what ends first", drawn.dueOn(drawn.renewal(1)), 28 + 18 + 3);
         Check.same("drawn then for the other", drawn.dueOn(drawn.renewal(0)), 28 + 20 + second);
+    }
+
+    /** The first is due on the day 20 and ends on 29; the second is due on the day 21 and ends on 24. */
+    private static CertHerd dueFirstEndsLast() {
+        CertHerd herd = States.root(50);
+        herd.setSeed(Seeds.drawing(0));
+        herd.issue(0, 0, 30);
+        herd.pass(5);
+        herd.setSeed(Seeds.drawing(3));
+        herd.issue(0, 1, 20);
+        herd.distrust(0, 6);
+        States.passTo(herd, 21);
+        herd.distrust(0, NONE);
+        return herd;
+    }
+
+    private static void queueIsByLastDays() {
+        CertHerd herd = dueFirstEndsLast();
+        Check.same("due first", herd.dueOn(0) * 100 + herd.dueOn(1), 2021);
+        Check.same("ends last", herd.lastDay(0) * 100 + herd.lastDay(1), 2924);
+        Check.same("at the first place", herd.waitingAt(0), 1);
+        Check.same("both", herd.pass(1), 2);
+        Check.same("what ends first comes first, whatever it is due on", herd.renewal(1), 2);
+        Check.same("what is due first comes then", herd.renewal(0), 3);
     }
 
     private static void queueEnds() {
@@ -721,7 +721,7 @@ public final class TermsTest {
         Check.same("the seed as before", offset(herd, 400), 21);
         Check.fails("the limit", Check.STATE, () -> herd.issue(0, 0, 1));
         herd.pass(7);
-        Check.same("the seed as it was left", offset(herd, 400), shifted(nextSeed(nextSeed(1))) % 67);
+        Check.same("the seed as it was left", offset(herd, 400), Seeds.upper(Seeds.next(Seeds.next(1))) % 67);
     }
 
     private static void none() {
