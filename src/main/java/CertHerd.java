@@ -392,7 +392,7 @@ public final class CertHerd {
             }
         }
 
-        /** The set of the issuers that are good on a day, with one of them (or NONE) distrusted on it. */
+        /** Rising numbers bring signers first, so that one pass settles who is good without an issuer (or NONE). */
         int goodOn(int day, int without) {
             int good = 0;
             for (int issuer = 0; issuer < count; issuer++) {
@@ -466,7 +466,7 @@ public final class CertHerd {
             return issued;
         }
 
-        /** Puts what waits on a day into the queue, by rising last days and then numbers; returns how many. */
+        /** Filled anew for each question, so that no call has to keep it in step; returns how many wait. */
         int fillQueue(int day) {
             int size = 0;
             for (int number = 0; number < count; number++) {

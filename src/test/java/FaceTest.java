@@ -1,12 +1,24 @@
+import java.io.IOException;
 import java.lang.reflect.Constructor;
 import java.lang.reflect.Field;
 import java.lang.reflect.Method;
 import java.lang.reflect.Modifier;
+import java.nio.file.Files;
+import java.nio.file.Path;
+import java.util.ArrayList;
+import java.util.List;
 import java.util.Set;
 import java.util.TreeSet;
+import java.util.regex.Matcher;
+import java.util.regex.Pattern;
 
 /** The class has the face that the document prints, and nothing else that can be seen from outside. */
 public final class FaceTest {
+    private static final Path PROGRAM = Path.of("src/main/java/CertHerd.java");
+    private static final Pattern PROMISE = Pattern.compile("`([^`]*\\([^`]*)`: .*");
+    private static final Pattern GROUP = Pattern.compile("Ahead of the calls (.*) the interface says: (---- .*)\\.");
+    private static final Pattern PUBLIC_CALL = Pattern.compile("public (?:int|void|boolean) (\\w+)\\(");
+
     private static final String I = " throws IndexOutOfBoundsException";
     private static final String A = " throws IllegalArgumentException";
     private static final String IA = I + " IllegalArgumentException";
@@ -41,7 +53,7 @@ public final class FaceTest {
         "int weakest(int)" + A,
     };
 
-    public static void main(String[] args) {
+    public static void main(String[] args) throws IOException {
         Check.same("the class", CertHerd.class.getModifiers(), Modifier.PUBLIC | Modifier.FINAL);
         Check.same("NONE", CertHerd.NONE, -1);
         Check.same("methods", seenMethods(), new TreeSet<>(Set.of(METHODS)));
@@ -49,7 +61,93 @@ public final class FaceTest {
         Constructor<?>[] constructors = CertHerd.class.getDeclaredConstructors();
         Check.same("constructors", constructors.length, 1);
         Check.same("constructor", constructors[0].toString(), "public CertHerd()");
+        insides();
+        if (Document.isThere()) {
+            String program = Files.readString(PROGRAM).replaceAll("\\s+", " ");
+            printedFace(program);
+            promisedCalls();
+            groups(program);
+        }
         Check.end();
+    }
+
+    /** LANGUAGE.md's rule 1, on what can't be seen from outside. */
+    private static void insides() {
+        for (Class<?> inside : CertHerd.class.getDeclaredClasses()) {
+            int modifiers = inside.getModifiers();
+            boolean seen = Modifier.isPublic(modifiers) || Modifier.isProtected(modifiers);
+            Check.same("static " + inside, Modifier.isStatic(modifiers), true);
+            Check.same("seen from outside " + inside, seen, false);
+        }
+        Set<String> open = new TreeSet<>();
+        Set<String> hidden = new TreeSet<>();
+        for (Method method : CertHerd.class.getDeclaredMethods()) {
+            (Modifier.isPrivate(method.getModifiers()) ? hidden : open).add(method.getName());
+        }
+        hidden.retainAll(open);
+        Check.same("private methods that bear the name of a public one", hidden, Set.of());
+    }
+
+    /** Each line of the printed face stands in the program with its parameters' names, in the same order. */
+    private static void printedFace(String program) {
+        int from = 0;
+        for (String line : faceLines()) {
+            String begin = line.endsWith(");") || line.endsWith("Exception;") ? line.replace(";", " {") : line;
+            int at = program.indexOf(begin, from);
+            Check.same("in its place in the program: " + line, at >= from, true);
+            from = Math.max(at, from);
+        }
+    }
+
+    private static void promisedCalls() {
+        List<String> promised = new ArrayList<>();
+        for (int promise = 1; promise <= 26; promise++) {
+            for (String line : Document.linesOf("Promise " + promise)) {
+                Matcher matcher = PROMISE.matcher(line);
+                if (matcher.matches()) {
+                    promised.add("public " + matcher.group(1) + ";");
+                }
+            }
+        }
+        List<String> printed = faceLines();
+        Check.same("each call of the face has its promise", promised, printed.subList(2, printed.size()));
+    }
+
+    /** What the document's interface says ahead of some calls stands ahead of these in the program. */
+    private static void groups(String program) {
+        int groups = 0;
+        for (String line : Document.linesOf("Terms")) {
+            Matcher matcher = GROUP.matcher(line);
+            if (matcher.matches()) {
+                groups++;
+                String title = "// " + matcher.group(2) + " public ";
+                int at = program.indexOf(title);
+                Check.same("in the program: " + title, at >= 0, true);
+                int end = program.indexOf("// ----", at + title.length());
+                String part = program.substring(Math.max(at, 0), end < 0 ? program.length() : end);
+                Check.same(title + " stands ahead of", publicCalls(part), matcher.group(1).replace("`", ""));
+            }
+        }
+        Check.same("groups of calls", groups, 4);
+    }
+
+    private static String publicCalls(String part) {
+        List<String> calls = new ArrayList<>();
+        Matcher matcher = PUBLIC_CALL.matcher(part);
+        while (matcher.find()) {
+            calls.add(matcher.group(1));
+        }
+        return String.join(", ", calls);
+    }
+
+    private static List<String> faceLines() {
+        List<String> lines = new ArrayList<>();
+        for (String line : Document.linesOf(Document.FACE)) {
+            if (!line.startsWith("```") && !line.equals("}")) {
+                lines.add(line.strip());
+            }
+        }
+        return lines;
     }
 
     private static Set<String> seenMethods() {

@@ -1,6 +1,3 @@
-import java.io.IOException;
-import java.nio.file.Files;
-import java.nio.file.Path;
 import java.util.ArrayList;
 import java.util.List;
 import java.util.Map;
@@ -11,11 +8,8 @@ import java.util.TreeMap;
  * at the end of a test class no sentence of its sections may be left without a test.
  */
 final class Sentence {
-    private static final Path DOCUMENT = Path.of("../shared/DOC.md");
-    private static final String FIRST_SECTION = "What it is";
-
-    private static final Map<String, List<String>> all = readDocument();
-    private static final Map<String, List<String>> untested = readDocument();
+    private static final Map<String, List<String>> all = readSentences();
+    private static final Map<String, List<String>> untested = readSentences();
 
     private Sentence() {
     }
@@ -52,32 +46,21 @@ final class Sentence {
 
     private static void begin(String section, String title, String words) {
         Check.about(title + ": " + words);
-        if (!all.isEmpty()) {
+        if (Document.isThere()) {
             Check.same("it stands in the document",
                     all.getOrDefault(section, List.of()).contains(words), true);
             untested.getOrDefault(section, new ArrayList<>()).remove(words);
         }
     }
 
-    /** Without the document its words can't be compared, but the checks of the class can still be done. */
-    private static Map<String, List<String>> readDocument() {
+    private static Map<String, List<String>> readSentences() {
         Map<String, List<String>> sections = new TreeMap<>();
-        if (!Files.isReadable(DOCUMENT)) {
-            System.out.println("there is no " + DOCUMENT + " to compare the tests' sentences with");
-            return sections;
-        }
-        try {
-            String section = "";
-            for (String line : Files.readAllLines(DOCUMENT)) {
-                if (line.startsWith("## ")) {
-                    section = line.substring(3).replaceAll(":.*", "");
-                    sections.put(section, new ArrayList<>());
-                } else if (!line.isEmpty() && sections.containsKey(section)) {
-                    addSentences(section, line, sections.get(section));
-                }
+        for (String section : Document.sections()) {
+            List<String> sentences = new ArrayList<>();
+            for (String line : Document.linesOf(section)) {
+                addSentences(section, line, sentences);
             }
-        } catch (IOException e) {
-            throw new IllegalStateException(e);
+            sections.put(section, sentences);
         }
         return sections;
     }
@@ -88,9 +71,10 @@ final class Sentence {
             return;
         }
         for (String words : line.split("(?<=\\.) (?=[A-Z])")) {
-            // These two kinds tell how the face is laid out, and the name of a paragraph.
+            // FaceTest has tests for how the face is laid out; "Pins." is the name of a paragraph.
             boolean asksNothing = words.startsWith("Ahead of the calls ") || words.equals("Pins.");
-            boolean isTitle = section.equals(FIRST_SECTION) && sentences.isEmpty() && words.startsWith("A herder");
+            boolean isTitle = section.equals(Document.FIRST_SECTION) && sentences.isEmpty()
+                    && words.startsWith("A herder");
             if (!asksNothing && !isTitle) {
                 sentences.add(words);
             }
